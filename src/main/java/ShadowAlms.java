@@ -571,7 +571,6 @@ public final class ShadowAlms {
                 noteFault(wrong, start);
                 return;
             }
-            Arrays.fill(numbers, 0);
             for (int i = 0; i < NUMBERS[kind] && faultKind == 0; i++) {
                 int bounds = kind * MOST_NUMBERS + i;
                 numbers[i] = readNumber(LEAST[bounds], GREATEST[bounds]);
@@ -675,8 +674,7 @@ public final class ShadowAlms {
         int seed;
 
         State() {
-            Arrays.fill(where, NONE);
-            Arrays.fill(wearer, NONE);
+            startAnew();
         }
 
         void startAnew() {

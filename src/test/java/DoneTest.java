@@ -51,6 +51,21 @@ public final class DoneTest {
         Due.is("lend to 4", x.lend(0, 4), Due.UNKNOWN);
         Due.is("lend to -2", x.lend(0, -2), Due.UNKNOWN);
         Due.is("lend hat 2 to who has one", x.lend(2, 2), Due.UNKNOWN);
+        ShadowAlms all = Due.squareOf("beggar 1;beggar 2;beggar 3;beggar 4;beggar 5;beggar 6;hat 1 1;hat 2 1;hat 3 1;hat 4 1;");
+        for (int h = 0; h < 4; h++) {
+            all.lend(h, 5 - h);
+        }
+        all.keep(0);
+        for (int h = 0; h < 4; h++) {
+            Due.is("all hats: " + h, all.beggar(5 - h, 2), h);
+            Due.is("all hats, TALL: " + h, all.beggar(5 - h, 3), 7);
+            Due.is("a second one beside " + h, all.lend((h + 1) % 4, 5 - h), Due.NOT);
+            all.lend(h, Due.NONE);
+        }
+        all.goBack(0);
+        for (int h = 0; h < 4; h++) {
+            Due.is("all hats by an image: " + h, all.hat(h, 2), 5 - h);
+        }
     }
 
     private static void laws() {

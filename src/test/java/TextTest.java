@@ -13,6 +13,7 @@ public final class TextTest {
         wordsThatCannot();
         signsThatCannot();
         ends();
+        anEarlierTextIsGone();
         numbersOutOfBounds();
         numbersTooLong();
         tooMany();
@@ -128,6 +129,8 @@ public final class TextTest {
         bad("bel", 1, 0);
         bad("  spots", 1, 2);
         bad("bellspot 1 1;", 1, 0);
+        bad("bellz 1 1;", 1, 0);
+        bad("abell 1 1;", 1, 0);
         bad("beggar 1;begga", 1, 9);
         bad("beggar beggar 1;", 1, 7);
         bad("bell 1 spot", 1, 7);
@@ -173,6 +176,24 @@ public final class TextTest {
         bad("spot 1 1", 1, 8);
         bad("spot 1 1 1", 1, 10);
         bad("beggar 1;bell", 1, 13);
+    }
+
+    private static void anEarlierTextIsGone() {
+        String[][] texts = {{"beggar 12;", "beggar 1", "8"}, {"beggar 1;", "beggar 1", "8"}, {"bells", "bell", "4"},
+            {"hat 1 1;hat", "hat 1 1", "7"}};
+        for (String[] pair : texts) {
+            ShadowAlms x = new ShadowAlms();
+            Due.feed(x, pair[0]);
+            x.square();
+            Due.feed(x, pair[1]);
+            Due.is("'" + pair[1] + "' behind '" + pair[0] + "'", x.square(), -11);
+            Due.is("its place", x.fault(), Integer.parseInt(pair[2]));
+        }
+        ShadowAlms x = new ShadowAlms();
+        Due.feed(x, "beggar 5; lamp");
+        x.square();
+        Due.feed(x, "beggar 5;");
+        Due.is("blanks and words behind the end", x.square(), 1);
     }
 
     private static void numbersOutOfBounds() {

@@ -8,6 +8,8 @@ public final class TriedTest {
         standingForOne();
         standingWithMoreSpots();
         standingWithNothing();
+        standingTwice();
+        allStandThoughItBringsLess();
         standingRefusals();
         hatsWhereTheyBringMost();
         hatsOfLikeOnes();
@@ -91,6 +93,27 @@ public final class TriedTest {
         ShadowAlms noBeggars = Due.squareOf("bell 10 0;spot 0 0 0;");
         Due.is("no beggars", noBeggars.standing(0, Due.NONE, Due.NONE), 0);
         Due.is("no beggars, the spot", noBeggars.standing(0, Due.NONE, 0), Due.NONE);
+    }
+
+    private static void standingTwice() {
+        ShadowAlms x = Due.squareOf("bell 20 0;bell 10 0;spot 0 0 0;spot 0 0 0;beggar 9;beggar 7;hat 1 0;");
+        standingIs(x, 0, Due.NONE, 32, 1, 0);
+        standingIs(x, 1, Due.NONE, 16, 1, 0);
+        standingIs(x, 1, 1, 7, 1, 0);
+        x.go(0, 0);
+        hatsAre(x, 0, 20, 0);
+        hatsAre(x, 1, 10, 0);
+    }
+
+    private static void allStandThoughItBringsLess() {
+        // who is on spot 0 shades the other, and has but an inch: yet both must stand
+        ShadowAlms x = Due.squareOf("bell 10 0;spot 20 0 1;spot 0 0 0;beggar 9;beggar 9;");
+        standingIs(x, 0, Due.NONE, 1, 0, 1);
+        x = Due.squareOf("bell 10 0;spot 0 0 0;spot 20 0 1;spot 0 0 0;beggar 9;beggar 9;beggar 9;");
+        standingIs(x, 0, Due.NONE, 10, 0, 1, 2);
+        // one who has the choice takes the spot that brings more, not the first
+        x = Due.squareOf("bell 10 0;spot 20 0 1;spot 0 0 0;beggar 9;");
+        standingIs(x, 0, Due.NONE, 9, Due.NONE, 0);
     }
 
     private static void standingRefusals() {
@@ -200,6 +223,13 @@ public final class TriedTest {
         giantIs(six, 100, 1, Due.NONE, 0);
         giantIs(Due.squareOf("bell 1 1;beggar 1;"), 100, 1, Due.NONE, 0);
         giantIs(Due.squareOf("bell 10 0;spot 7 0 0;"), 100, 1, 0, 106);
+        // he wears no hat that one of his number wore on an earlier square
+        ShadowAlms later = Due.squareOf("bell 10 0;spot 0 0 0;spot 0 0 0;beggar 1;beggar 1;hat 1 9;");
+        later.lend(0, 1);
+        giantIs(later, 100, 1, 0, 99);
+        Due.feed(later, "bell 10 0;spot 0 0 0;spot 0 0 0;beggar 1;hat 1 9;");
+        later.square();
+        giantIs(later, 100, 1, 0, 99);
     }
 
     private static void giantsByLaws() {
@@ -307,6 +337,14 @@ public final class TriedTest {
         Due.is("it is 50", capped.best(0, 1), 50);
         capped.law(0);
         Due.is("the middle of 60", capped.best(0, 0), 30);
+        ShadowAlms two = Due.squareOf("year 2;bell 10 9;spot 0 0 0;beggar 10;");
+        two.go(0, 0);
+        Due.is("the middle of 2", two.best(0, 0), 1);
+        Due.is("how much of 2", two.best(0, 1), 19);
+        ShadowAlms one = Due.squareOf("year 1;bell 10 9;spot 0 0 0;beggar 10;");
+        one.go(0, 0);
+        Due.is("the only day", one.best(0, 0), 0);
+        Due.is("how much of 1", one.best(0, 1), 10);
         ShadowAlms noBells = Due.squareOf("beggar 1;");
         Due.is("without bells, the day", noBells.best(0, 0), 0);
         Due.is("without bells, how much", noBells.best(0, 1), 0);
