@@ -443,7 +443,7 @@ public final class ShadowAlms {
         now.day++;
         int g = now.draw(plan.count(BEGGAR));
         int s = now.draw(plan.count(SPOT));
-        if (now.whoIsOn(s) == NONE) {
+        if (plan.has(BEGGAR, g) && now.whoIsOn(s) == NONE) {
             now.where[g] = s;
         }
         return sum;
@@ -771,12 +771,12 @@ public final class ShadowAlms {
             for (int g = 0; g < people; g++) {
                 high[g] = plan.number(BEGGAR, g, 0);
                 cost[g] = 0;
-                if (state.where[g] != NONE) {
+                if (plan.has(SPOT, state.where[g])) {
                     onSpot[state.where[g]] = g;
                 }
             }
             for (int h = 0; withHats && h < plan.count(HAT); h++) {
-                if (state.wearer[h] != NONE) {
+                if (plan.has(BEGGAR, state.wearer[h])) {
                     putHat(h, state.wearer[h]);
                 }
             }
@@ -822,7 +822,7 @@ public final class ShadowAlms {
             for (int s = 0; s < plan.count(SPOT); s++) {
                 int g = onSpot[s];
                 int tall = 0;
-                if (g != NONE) {
+                if (isHere(g)) {
                     tall = high[g] + plan.number(SPOT, s, 0);
                     shade[g] = tallInFront > tall ? 0 : plan.shadeOn(s, tall, length);
                 }
@@ -842,8 +842,12 @@ public final class ShadowAlms {
             gift[longest] = sum;
         }
 
+        private boolean isHere(int g) {
+            return g >= 0 && g < people;
+        }
+
         int almsOf(int g) {
-            return gift[g] - cost[g];
+            return isHere(g) ? gift[g] - cost[g] : 0;
         }
 
         int sumOfAlms() {

@@ -2,6 +2,10 @@ import java.io.IOException;
 import java.nio.charset.StandardCharsets;
 import java.nio.file.Files;
 import java.nio.file.Path;
+import java.util.Map;
+import java.util.Set;
+import java.util.TreeMap;
+import java.util.TreeSet;
 import java.util.regex.Matcher;
 import java.util.regex.Pattern;
 
@@ -28,7 +32,40 @@ public final class RulesTest {
         }
         Due.is("Arrays.fill over booleans", Pattern.compile("Arrays\\.fill\\([^)]*(true|false)\\)").matcher(code).find() ? 1 : 0, 0);
         lengthsOfMethods(source);
+        depthOfCalls(code);
         Due.end();
+    }
+
+    /** Methods of one name count as one, so a chain is rather told too long than too short; a call of itself is recursion. */
+    private static void depthOfCalls(String code) {
+        Map<String, Set<String>> calls = new TreeMap<>();
+        String name = "";
+        for (String line : code.split("\n")) {
+            Matcher head = Pattern.compile("^(?: {4}| {8})(?! )[\\w\\[\\] ]*?(\\w+)\\(.*\\) \\{$").matcher(line);
+            if (head.find() && !head.group(1).matches("if|for|while|switch")) {
+                name = head.group(1);
+                calls.putIfAbsent(name, new TreeSet<>());
+            } else if (!name.isEmpty()) {
+                Matcher call = Pattern.compile("(?<!Arrays\\.)\\b(\\w+)\\(").matcher(line);
+                while (call.find()) {
+                    calls.get(name).add(call.group(1));
+                }
+            }
+        }
+        Due.is("the methods are seen", calls.containsKey("drift") && calls.get("cast").contains("castShades") ? 1 : 0, 1);
+        for (String first : calls.keySet()) {
+            Due.is("eight calls deep at most: " + first, Math.max(8, depthFrom(first, calls, 0)), 8);
+        }
+    }
+
+    private static int depthFrom(String name, Map<String, Set<String>> calls, int above) {
+        int deepest = above + 1;
+        for (String called : calls.get(name)) {
+            if (calls.containsKey(called) && !called.equals(name) && above < 50) {
+                deepest = Math.max(deepest, depthFrom(called, calls, above + 1));
+            }
+        }
+        return deepest;
     }
 
     /** A method begins at a line that ends with ') {' in a class's depth, and ends with a brace in the same column. */
